@@ -1,0 +1,27 @@
+/** Counts and prints the calls whose answer is not the one that is due; used by every test. */
+final class Due {
+    private int wrong;
+    private int asked;
+    private String part = "";
+
+    void part(String name) {
+        part = name;
+    }
+
+    void is(String call, long got, long want) {
+        asked++;
+        if (got != want) {
+            wrong++;
+            if (wrong <= 50) {
+                System.out.println(part + ": " + call + " answered " + got + ", due is " + want);
+            }
+        }
+    }
+
+    void end() {
+        System.out.println(wrong == 0 ? asked + " answers are as due" : wrong + " of " + asked + " are not as due");
+        if (wrong != 0) {
+            System.exit(1);
+        }
+    }
+}
