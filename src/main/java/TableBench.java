@@ -5,6 +5,8 @@ public final class TableBench {
     private static final int LEAVES = 16, LEAF_ROOM = 8, TABLES = 60, SIDE = 6, RESULTS = 48, GREATEST = 100;
     private static final int INT = 0, LONG = 1, FLOAT = 2, DOUBLE = 3;
     private static final int TABLE = 0, SLANT = 1, BAND = 2, NET = 3, FLOW = 4;
+    // The bodies of bound() are numbered otherwise than the kinds.
+    private static final int TABLE_BODY = 1, SLANT_BODY = 2, NET_BODY = 3, FLOW_BODY = 4;
     private static final int NULL = 1, INDEX = 2, CAST = 3, SIZE = 4, BROKEN = 5, GREAT = 6, UNEVEN = 7, UNFIT = 8;
 
     private final Leaf[] leaves;
@@ -295,16 +297,16 @@ public final class TableBench {
             return UNKNOWN;
         }
         if (one.sort == SLANT) {
-            mark(SLANT);
+            mark(SLANT_BODY);
             return one.greatestBetween();
         }
         if (one.sort == FLOW) {
-            mark(FLOW);
+            mark(FLOW_BODY);
         }
-        if (one.sort == FLOW || one.sort == NET) {
-            mark(NET);
+        if (one.isNet()) {
+            mark(NET_BODY);
         }
-        mark(1);
+        mark(TABLE_BODY);
         return one.greatestRow();
     }
 
@@ -665,13 +667,13 @@ public final class TableBench {
     }
 
     private int tablesOf(int sort) {
-        int found = 0;
+        int many = 0;
         for (int t = 0; t < made && t < TABLES; t++) {
             if (tables[t].sort == sort) {
-                found++;
+                many++;
             }
         }
-        return found;
+        return many;
     }
 
     /** A row of words of one lane; they are read as numbers only when a table or a form asks. */
@@ -1154,7 +1156,7 @@ public final class TableBench {
 
         int width() {
             int bits = 0;
-            for (int top = digit(length - 1); top != 0; top >>>= 1) {
+            for (int top = digit(length - 1); top != 0 && bits < DIGIT_BITS; top >>>= 1) {
                 bits++;
             }
             return length == 0 ? 0 : (length - 1) * DIGIT_BITS + bits;
