@@ -94,7 +94,7 @@ public final class TableBench {
             return found(NULL);
         }
         int had = leaf.length;
-        leaf.length = NONE;
+        leaf.vanish();
         return had;
     }
 
@@ -322,7 +322,7 @@ public final class TableBench {
             return UNKNOWN;
         }
         teller.read(one);
-        return answer(teller.whole, one.side + 1);
+        return answer(teller.whole);
     }
 
     public int worth(int t) {
@@ -331,7 +331,8 @@ public final class TableBench {
             return UNKNOWN;
         }
         teller.read(one);
-        return answerOne(one.side % 2 == 0 ? teller.whole[0] : -teller.whole[0]);
+        long last = teller.whole.number(0);
+        return answerOne(one.side % 2 == 0 ? last : -last);
     }
 
     public int ring(int t) {
@@ -340,8 +341,8 @@ public final class TableBench {
             return UNKNOWN;
         }
         teller.read(one);
-        int degree = teller.makeLeast();
-        return answer(teller.least, degree + 1);
+        teller.makeLeast();
+        return answer(teller.least);
     }
 
     public int often(int t, int j) {
@@ -366,10 +367,10 @@ public final class TableBench {
         }
         teller.read(one);
         if (what < 3) {
-            scale.weigh(teller.whole, one.side, a, b);
+            scale.weigh(teller.whole, a, b);
         } else {
-            int degree = teller.makeLeast();
-            scale.weigh(teller.least, degree, a, b);
+            teller.makeLeast();
+            scale.weigh(teller.least, a, b);
         }
         int part = what % 3;
         return part == 0 ? scale.below : part == 1 ? scale.just : scale.above;
@@ -384,14 +385,14 @@ public final class TableBench {
             return OUTSIDE;
         }
         teller.read(one);
-        int degree = teller.makeLeast();
-        if (i < 0 || i >= degree) {
+        teller.makeLeast();
+        if (i < 0 || i >= teller.least.degree) {
             return found(INDEX);
         }
         int part = 1 << k;
-        int m = scale.greatestNotAbove(teller.least, degree, i, part);
+        int m = scale.greatestNotAbove(teller.least, i, part);
         lastSeen = m;
-        scale.weigh(teller.least, degree, m, part);
+        scale.weigh(teller.least, m, part);
         return scale.just;
     }
 
@@ -404,9 +405,6 @@ public final class TableBench {
         Table other = tableAt(u);
         if (one == null || other == null) {
             return UNKNOWN;
-        }
-        if (one.side != other.side) {
-            return 0;
         }
         teller.read(one);
         teller.keepWhole();
@@ -524,8 +522,8 @@ public final class TableBench {
         }
         teller.read(one);
         // The number at x^1 is, but for its sign, the sum of all worths of the FLOW less one thing; each is the count.
-        long sum = Math.abs(teller.whole[1]);
-        return answerOne(one.side > 0 ? sum / one.side : 0);
+        long sum = Math.abs(teller.whole.number(1));
+        return answerOne(sum / Math.max(one.side, 1));
     }
 
     // ---- the result
@@ -634,12 +632,12 @@ public final class TableBench {
         return i >= 0 && i < outcomes && i < RESULTS;
     }
 
-    private int answer(long[] numbers, int length) {
-        for (int i = 0; i < length && i < numbers.length && i < RESULTS; i++) {
-            outcome[i].become(numbers[i]);
+    private int answer(Polynomial polynomial) {
+        outcomes = polynomial.degree + 1;
+        for (int i = 0; i < outcomes && i < RESULTS; i++) {
+            outcome[i].become(polynomial.number(i));
         }
-        outcomes = length;
-        return length;
+        return outcomes;
     }
 
     private int answerOne(long number) {
@@ -701,9 +699,13 @@ public final class TableBench {
             return i >= 0 && i < length && i < LEAF_ROOM;
         }
 
+        void vanish() {
+            length = NONE;
+        }
+
         void begin(int newLane, int newLength) {
             lane = newLane;
-            length = newLength;
+            length = Math.min(newLength, LEAF_ROOM);
             for (int i = 0; i < LEAF_ROOM; i++) {
                 words[i] = 0;
             }
@@ -819,7 +821,7 @@ public final class TableBench {
         }
 
         void begin(int newSide) {
-            side = newSide;
+            side = Math.max(1, Math.min(newSide, SIDE));
             for (int i = 0; i < SIDE * SIDE; i++) {
                 numbers[i] = 0;
             }
@@ -992,14 +994,14 @@ public final class TableBench {
 
     /** A whole number with room for a fixed count of digits, used again and again. */
     private static final class Big {
-        static final int DIGIT_BITS = 30, BASE = 1 << DIGIT_BITS, MASK = BASE - 1;
+        static final int DIGIT_BITS = 30, BASE = 1 << DIGIT_BITS, MASK = BASE - 1, DIGITS_OF_LONG = 3;
 
         private int direction;
         private int length;
         private final int[] digits;
 
         Big(int room) {
-            digits = new int[Math.max(room, 4)];
+            digits = new int[Math.max(room, DIGITS_OF_LONG)];
         }
 
         int digit(int i) {
@@ -1013,15 +1015,14 @@ public final class TableBench {
         }
 
         void become(long number) {
-            direction = number < 0 ? -1 : number > 0 ? 1 : 0;
             long left = number;
             // Below 0 the digits are taken from the negative side: the least long has no size of its own.
-            for (int i = 0; i < 3; i++) {
-                int rest = (int) (left % BASE);
-                digits[i] = rest < 0 ? -rest : rest;
+            for (int i = 0; i < DIGITS_OF_LONG; i++) {
+                setDigit(i, Math.abs((int) (left % BASE)));
                 left /= BASE;
             }
-            trim(3);
+            direction = Long.compare(number, 0);
+            trim(DIGITS_OF_LONG);
         }
 
         void copy(Big other) {
@@ -1034,7 +1035,7 @@ public final class TableBench {
 
         /** Sets the length, at most as told, past zeros in front. */
         void trim(int atMost) {
-            int end = Math.min(atMost, digits.length);
+            int end = atMost < digits.length ? atMost : digits.length;
             while (end > 0 && digits[end - 1] == 0) {
                 end--;
             }
@@ -1044,27 +1045,21 @@ public final class TableBench {
             }
         }
 
-        void add(Big other) {
-            join(other, other.direction);
-        }
-
-        void subtract(Big other) {
-            join(other, -other.direction);
-        }
-
-        private void join(Big other, int way) {
-            if (way == 0) {
+        /** Adds the other (side is 1), or takes it away (side is -1). */
+        void add(Big other, int side) {
+            int towards = other.direction * side;
+            if (towards == 0) {
                 return;
             }
             if (direction == 0) {
                 copy(other);
-                direction = way;
-            } else if (direction == way) {
+                direction = towards;
+            } else if (direction == towards) {
                 addSize(other);
-            } else if (compareSize(other) >= 0) {
+            } else if (isAtLeastInSize(other)) {
                 takeSize(other, false);
             } else {
-                direction = way;
+                direction = towards;
                 takeSize(other, true);
             }
         }
@@ -1076,7 +1071,6 @@ public final class TableBench {
                 int sum = digit(i) + other.digit(i) + carry;
                 setDigit(i, sum & MASK);
                 carry = sum >>> DIGIT_BITS;
-                length = Math.max(length, Math.min(i + 1, digits.length));
             }
             trim(end);
         }
@@ -1089,26 +1083,26 @@ public final class TableBench {
                 int rest = turned ? other.digit(i) - digit(i) : digit(i) - other.digit(i);
                 rest -= borrow;
                 borrow = rest < 0 ? 1 : 0;
-                setDigit(i, rest + borrow * BASE);
+                setDigit(i, rest & MASK);
             }
             trim(end);
         }
 
-        int compareSize(Big other) {
+        private boolean isAtLeastInSize(Big other) {
             if (length != other.length) {
-                return length < other.length ? -1 : 1;
+                return length > other.length;
             }
             for (int i = length - 1; i >= 0; i--) {
                 if (digit(i) != other.digit(i)) {
-                    return digit(i) < other.digit(i) ? -1 : 1;
+                    return digit(i) > other.digit(i);
                 }
             }
-            return 0;
+            return true;
         }
 
         /** Times a number whose size is below the base. */
         void scaleBy(int factor) {
-            long size = Math.abs(factor);
+            long size = Math.abs((long) factor);
             long carry = 0;
             int end = length + 1;
             for (int i = 0; i < end; i++) {
@@ -1127,39 +1121,40 @@ public final class TableBench {
                 digits[i] = 0;
             }
             for (int i = 0; i < a.length; i++) {
-                long factor = a.digit(i);
-                long carry = 0;
-                for (int k = 0; k <= b.length; k++) {
-                    if (i + k < end) {
-                        carry += factor * b.digit(k) + digits[i + k];
-                        digits[i + k] = (int) (carry & MASK);
-                        carry >>>= DIGIT_BITS;
-                    }
-                }
+                addProduct(a.digit(i), b, i, end);
             }
             direction = a.direction * b.direction;
             trim(end);
         }
 
+        private void addProduct(long factor, Big b, int from, int end) {
+            long carry = 0;
+            for (int k = 0; k <= b.length && from + k < end; k++) {
+                carry += factor * b.digit(k) + digits[from + k];
+                digits[from + k] = (int) (carry & MASK);
+                carry >>>= DIGIT_BITS;
+            }
+        }
+
+        /** Whether two digits hold it, so that a long does. */
         boolean isShort() {
-            return length <= 2;
+            return length < DIGITS_OF_LONG;
         }
 
         /** The number of at most 63 bits that this is. */
         long asLong() {
             long size = 0;
-            for (int i = 2; i >= 0; i--) {
+            for (int i = DIGITS_OF_LONG - 1; i >= 0; i--) {
                 size = size << DIGIT_BITS | digit(i);
             }
             return direction < 0 ? -size : size;
         }
 
         int width() {
-            int bits = 0;
-            for (int top = digit(length - 1); top != 0 && bits < DIGIT_BITS; top >>>= 1) {
-                bits++;
+            if (length == 0) {
+                return 0;
             }
-            return length == 0 ? 0 : (length - 1) * DIGIT_BITS + bits;
+            return length * DIGIT_BITS - (Integer.numberOfLeadingZeros(digit(length - 1)) - (32 - DIGIT_BITS));
         }
 
         long wordAt(int k) {
@@ -1168,7 +1163,7 @@ public final class TableBench {
             }
             int first = 32 * k / DIGIT_BITS;
             int apart = 32 * k % DIGIT_BITS;
-            // The place apart is even, so that two digits hold the 32 bits from there on.
+            // A word begins at an even place of a digit, 28 at the most: two digits, of 60 bits, hold it whole.
             long pair = (long) digit(first + 1) << DIGIT_BITS | digit(first);
             return pair >>> apart & 0xffffffffL;
         }
@@ -1181,50 +1176,44 @@ public final class TableBench {
         private Big one;
         private Big two;
         private Big rest;
-        private final Big quotient;
 
         Divider(int room) {
-            upper = new int[room + 2];
-            lower = new int[room + 2];
+            int places = Math.max(room, 0) + 2;
+            upper = new int[places];
+            lower = new int[places];
             one = new Big(room);
             two = new Big(room);
             rest = new Big(room);
-            quotient = new Big(room);
         }
 
-        /** The quotient may be one of the two numbers themselves. */
-        void divide(Big a, Big b, Big quotientTo, Big restTo) {
+        /** The first number becomes the quotient, rest what is left over. */
+        void divide(Big a, Big b) {
             int n = b.length;
             int turns = a.length - n;
-            int direction = a.direction;
-            int together = a.direction * b.direction;
             if (n == 0 || turns < 0 || a.length + 1 >= upper.length) {
-                restTo.copy(a);
-                quotientTo.become(0);
+                rest.copy(a);
+                a.become(0);
                 return;
             }
-            int stretch = Big.BASE / (b.digit(n - 1) + 1);
+            // Stretched until the divisor's first digit is at least half the base: only then are the guesses good.
+            int stretch = Big.BASE / Math.max(b.digit(n - 1) + 1, 1);
             stretchInto(upper, a, stretch);
             stretchInto(lower, b, stretch);
             for (int j = turns; j >= 0; j--) {
-                quotientTo.setDigit(j, takeOff(j, n, guess(j, n)));
+                a.setDigit(j, takeOff(j, n, guess(j, n)));
             }
-            quotientTo.direction = together;
-            quotientTo.trim(turns + 1);
-            shrinkInto(restTo, n, stretch);
-            restTo.direction = direction;
-            restTo.trim(n);
-        }
-
-        void divideExactly(Big a, Big b) {
-            divide(a, b, a, rest);
+            shrinkIntoRest(n, stretch);
+            rest.direction = a.direction;
+            rest.trim(n);
+            a.direction *= b.direction;
+            a.trim(turns + 1);
         }
 
         void greatestIntoBoth(Big a, Big b, Big to) {
             one.copy(a);
             two.copy(b);
             for (int step = 0; step < 100000 && two.direction != 0 && !(one.isShort() && two.isShort()); step++) {
-                divide(one, two, quotient, rest);
+                divide(one, two);
                 Big freed = one;
                 one = two;
                 two = rest;
@@ -1249,7 +1238,6 @@ public final class TableBench {
             return x;
         }
 
-        /** Stretched so that the divisor's first digit is at least half the base: then a guess is off by two at most. */
         private static void stretchInto(int[] to, Big number, int stretch) {
             long carry = 0;
             for (int i = 0; i <= number.length && i < to.length; i++) {
@@ -1259,27 +1247,27 @@ public final class TableBench {
             }
         }
 
-        private void shrinkInto(Big to, int n, int stretch) {
+        private void shrinkIntoRest(int n, int stretch) {
             long left = 0;
-            for (int i = n - 1; i >= 0; i--) {
+            for (int i = Math.min(n, upper.length) - 1; i >= 0 && stretch > 0; i--) {
                 left = left << Big.DIGIT_BITS | upper[i];
-                to.setDigit(i, stretch > 0 ? (int) (left / stretch) : 0);
-                left = stretch > 0 ? left % stretch : 0;
+                rest.setDigit(i, (int) (left / stretch));
+                left %= stretch;
             }
         }
 
+        /** The digit that the divisor of n digits goes in at place j, by its first two: at most one too great. */
         private long guess(int j, int n) {
-            long head = (long) upper[j + n] << Big.DIGIT_BITS | upper[j + n - 1];
-            long top = lower[n - 1];
+            long top = lowerDigit(n - 1);
             if (top == 0) {
                 return 0;
             }
+            long head = upperDigit(j + n) << Big.DIGIT_BITS | upperDigit(j + n - 1);
             long digit = head / top;
             long left = head % top;
             for (int step = 0; step < 3 && left < Big.BASE; step++) {
-                long next = n > 1 ? digit * lower[n - 2] : 0;
-                long room = n > 1 ? left << Big.DIGIT_BITS | upper[j + n - 2] : 0;
-                if (digit < Big.BASE && next <= room) {
+                long room = n > 1 ? left << Big.DIGIT_BITS | upperDigit(j + n - 2) : 0;
+                if (digit < Big.BASE && digit * lowerDigit(n - 2) <= room) {
                     return digit;
                 }
                 digit--;
@@ -1290,15 +1278,12 @@ public final class TableBench {
 
         private int takeOff(int j, int n, long digit) {
             long carry = 0;
-            for (int i = 0; i <= n; i++) {
-                carry += digit * (i < n ? lower[i] : 0);
-                long rest = upper[j + i] - (carry & Big.MASK);
+            for (int i = 0; i <= n && i < lower.length && j + i < upper.length; i++) {
+                carry += digit * lower[i];
+                long left = upper[j + i] - (carry & Big.MASK);
                 carry >>>= Big.DIGIT_BITS;
-                if (rest < 0) {
-                    rest += Big.BASE;
-                    carry++;
-                }
-                upper[j + i] = (int) rest;
+                carry += left < 0 ? 1 : 0;
+                upper[j + i] = (int) (left & Big.MASK);
             }
             if (carry == 0) {
                 return (int) digit;
@@ -1308,12 +1293,114 @@ public final class TableBench {
         }
 
         private void putBack(int j, int n) {
-            int carry = 0;
-            for (int i = 0; i <= n; i++) {
-                int sum = upper[j + i] + (i < n ? lower[i] : 0) + carry;
-                upper[j + i] = sum & Big.MASK;
-                carry = sum >>> Big.DIGIT_BITS;
+            long carry = 0;
+            for (int i = 0; i <= n && i < lower.length && j + i < upper.length; i++) {
+                carry += upper[j + i] + lower[i];
+                upper[j + i] = (int) (carry & Big.MASK);
+                carry >>>= Big.DIGIT_BITS;
             }
+        }
+
+        private long upperDigit(int i) {
+            return i >= 0 && i < upper.length ? upper[i] : 0;
+        }
+
+        private long lowerDigit(int i) {
+            return i >= 0 && i < lower.length ? lower[i] : 0;
+        }
+    }
+
+    /** A polynomial of whole numbers, from x^0 on. */
+    private static final class Polynomial {
+        private int degree;
+        private final long[] numbers = new long[SIDE + 1];
+
+        void begin(int newDegree) {
+            degree = Math.max(0, Math.min(newDegree, SIDE));
+        }
+
+        long number(int i) {
+            return i >= 0 && i < numbers.length ? numbers[i] : 0;
+        }
+
+        void write(int i, long number) {
+            if (i >= 0 && i < numbers.length) {
+                numbers[i] = number;
+            }
+        }
+
+        void copy(Polynomial other) {
+            begin(other.degree);
+            for (int i = 0; i <= degree; i++) {
+                write(i, other.number(i));
+            }
+        }
+
+        boolean isAs(Polynomial other) {
+            for (int i = 0; i <= degree; i++) {
+                if (number(i) != other.number(i)) {
+                    return false;
+                }
+            }
+            return degree == other.degree;
+        }
+
+        /** What goes into it, with 1 at its highest power, is taken out of it until nothing is left. */
+        void takeOut(Polynomial part, Polynomial quotient) {
+            quotient.begin(degree - part.degree);
+            for (int i = quotient.degree; i >= 0; i--) {
+                long factor = number(i + part.degree);
+                quotient.write(i, factor);
+                for (int k = 0; k <= part.degree; k++) {
+                    write(i + k, number(i + k) - factor * part.number(k));
+                }
+            }
+        }
+    }
+
+    /** Multiplied by a table again and again. */
+    private static final class Power {
+        private int side;
+        private long[] numbers = new long[SIDE * SIDE];
+        private long[] next = new long[SIDE * SIDE];
+
+        /** The power of 0: 1 where i is k. */
+        void begin(int newSide) {
+            side = Math.max(0, Math.min(newSide, SIDE));
+            for (int i = 0; i < SIDE * SIDE; i++) {
+                numbers[i] = 0;
+            }
+            shiftBy(1);
+        }
+
+        void shiftBy(long more) {
+            for (int i = 0; i < side; i++) {
+                numbers[i * (SIDE + 1)] += more;
+            }
+        }
+
+        void multiplyBy(Table table) {
+            for (int i = 0; i < side; i++) {
+                for (int k = 0; k < side; k++) {
+                    long sum = 0;
+                    for (int j = 0; j < side; j++) {
+                        sum += table.number(i, j) * numbers[j * SIDE + k];
+                    }
+                    next[i * SIDE + k] = sum;
+                }
+            }
+            long[] freed = numbers;
+            numbers = next;
+            next = freed;
+        }
+
+        /** The sum of the numbers where i is k. */
+        long sumBetween() {
+            long sum = 0;
+            for (int i = 0; i < side; i++) {
+                sum += numbers[i * (SIDE + 1)];
+            }
+            return sum;
         }
     }
 
@@ -1321,13 +1408,11 @@ public final class TableBench {
     private static final class Teller {
         static final int DIGITS = 40;
 
-        private final long[] whole = new long[SIDE + 1];
-        private final long[] least = new long[SIDE + 1];
-        private final long[] common = new long[SIDE + 1];
-        private final long[] kept = new long[SIDE + 1];
-        private final long[] power = new long[SIDE * SIDE];
-        private final long[] next = new long[SIDE * SIDE];
-        private int degree;
+        private final Polynomial whole = new Polynomial();
+        private final Polynomial least = new Polynomial();
+        private final Polynomial common = new Polynomial();
+        private final Polynomial kept = new Polynomial();
+        private final Power power = new Power();
         private Big[] upper = bigRow();
         private Big[] lower = bigRow();
         private Big[] left = bigRow();
@@ -1345,82 +1430,58 @@ public final class TableBench {
 
         /** Faddeev and LeVerrier's way: each number from the sum where i is k of a product with the table. */
         void read(Table table) {
-            degree = table.side;
-            for (int i = 0; i < SIDE * SIDE; i++) {
-                power[i] = i % (SIDE + 1) == 0 ? 1 : 0;
-            }
-            whole[degree] = 1;
-            for (int step = 1; step <= degree; step++) {
-                Web.multiply(table, power, next);
-                long sum = 0;
-                for (int i = 0; i < degree; i++) {
-                    sum += next[i * SIDE + i];
-                }
-                long number = -sum / step;
-                whole[degree - step] = number;
-                for (int i = 0; i < SIDE * SIDE; i++) {
-                    power[i] = next[i] + (i % (SIDE + 1) == 0 ? number : 0);
-                }
+            int n = table.side;
+            whole.begin(n);
+            whole.write(n, 1);
+            power.begin(n);
+            for (int step = 1; step <= n; step++) {
+                power.multiplyBy(table);
+                long number = -power.sumBetween() / step;
+                whole.write(n - step, number);
+                power.shiftBy(number);
             }
         }
 
         void keepWhole() {
-            copyLongs(whole, kept);
+            kept.copy(whole);
         }
 
         boolean isAsKept() {
-            for (int i = 0; i <= degree; i++) {
-                if (whole[i] != kept[i]) {
-                    return false;
-                }
-            }
-            return true;
+            return whole.isAs(kept);
         }
 
-        /** Its degree: the least polynomial is the whole one over what that has in common with its slope. */
-        int makeLeast() {
-            int shared = commonWithSlope(whole, degree);
-            copyLongs(whole, kept);
-            int last = degree - shared;
-            for (int i = last; i >= 0; i--) {
-                long factor = kept[i + shared];
-                least[i] = factor;
-                for (int k = 0; k <= shared; k++) {
-                    kept[i + k] -= factor * common[k];
-                }
-            }
-            return last;
+        /** The least polynomial is the whole one without what that has in common with its slope. */
+        void makeLeast() {
+            shareWithSlope(whole);
+            kept.copy(whole);
+            kept.takeOut(common, least);
         }
 
+        /** What a polynomial shares with its slope has each root once less. */
         int unlikeAtLeast(int times) {
-            copyLongs(whole, kept);
-            int now = degree;
+            kept.copy(whole);
             for (int step = 1; step < times; step++) {
-                now = commonWithSlope(kept, now);
-                copyLongs(common, kept);
+                shareWithSlope(kept);
+                kept.copy(common);
             }
-            return now - commonWithSlope(kept, now);
-        }
-
-        private static void copyLongs(long[] from, long[] to) {
-            for (int i = 0; i < from.length && i < to.length; i++) {
-                to[i] = from[i];
-            }
+            shareWithSlope(kept);
+            return kept.degree - common.degree;
         }
 
         /**
-         * What a polynomial has in common with its slope, into common: its degree. All roots are real, so that each
-         * remainder's degree is just one less, and the square of the first number but two divides it.
+         * Makes the common part. All roots are real, so that each remainder's degree is just one less, and the square
+         * of the first number of the polynomial two before goes into it.
          */
-        private int commonWithSlope(long[] numbers, int ofDegree) {
-            for (int i = 0; i <= ofDegree; i++) {
-                upper[i].become(numbers[i]);
+        private void shareWithSlope(Polynomial of) {
+            int degree = of.degree;
+            for (int i = 0; i <= degree; i++) {
+                upper[i].become(of.number(i));
             }
-            for (int i = 0; i < ofDegree; i++) {
-                lower[i].become(numbers[i + 1]);
+            for (int i = 0; i < degree; i++) {
+                lower[i].become(of.number(i + 1));
                 lower[i].scaleBy(i + 1);
             }
-            int now = ofDegree - 1;
+            int now = degree - 1;
             while (now > 0 && takeRemainder(now)) {
                 Big[] freed = upper;
                 upper = lower;
@@ -1428,27 +1489,30 @@ public final class TableBench {
                 left = freed;
                 now--;
             }
-            if (now <= 0) {
-                common[0] = 1;
-                return 0;
+            common.begin(now);
+            if (common.degree == 0) {
+                common.write(0, 1);
+                return;
             }
             top.copy(lower[now]);
             for (int i = 0; i <= now; i++) {
-                divider.divideExactly(lower[i], top);
-                common[i] = lower[i].asLong();
+                divider.divide(lower[i], top);
+                common.write(i, lower[i].asLong());
             }
-            return now;
         }
 
         /** The remainder of upper, of one degree more, by lower, into left: whether it is not 0. */
         private boolean takeRemainder(int lowerDegree) {
+            if (lowerDegree < 0 || lowerDegree >= SIDE) {
+                return false;
+            }
             Big lead = upper[lowerDegree + 1];
             Big head = lower[lowerDegree];
             for (int i = 0; i <= lowerDegree; i++) {
                 left[i].becomeProduct(upper[i], head);
                 if (i > 0) {
                     product.becomeProduct(lower[i - 1], lead);
-                    left[i].subtract(product);
+                    left[i].add(product, -1);
                 }
             }
             top.copy(left[lowerDegree]);
@@ -1456,9 +1520,9 @@ public final class TableBench {
             for (int i = 0; i < lowerDegree; i++) {
                 product.becomeProduct(left[i], head);
                 left[i].becomeProduct(lower[i], top);
-                product.subtract(left[i]);
-                divider.divideExactly(product, lead);
-                divider.divideExactly(product, lead);
+                product.add(left[i], -1);
+                divider.divide(product, lead);
+                divider.divide(product, lead);
                 left[i].copy(product);
                 any = any || product.direction != 0;
             }
@@ -1483,8 +1547,9 @@ public final class TableBench {
         }
 
         /** Descartes' rule is exact where all roots are real: as many above 0 as the numbers' signs change. */
-        void weigh(long[] polynomial, int degree, int a, int b) {
-            moveBy(polynomial, degree, a, b);
+        void weigh(Polynomial polynomial, int a, int b) {
+            int degree = polynomial.degree;
+            moveBy(polynomial, a, b);
             just = 0;
             while (just < degree && numbers[just].direction == 0) {
                 just++;
@@ -1501,12 +1566,13 @@ public final class TableBench {
             below = degree - just - above;
         }
 
-        int greatestNotAbove(long[] polynomial, int degree, int i, int part) {
+        /** By halves: no root's size is above that of the sum of a row. */
+        int greatestNotAbove(Polynomial polynomial, int i, int part) {
             int low = -(SIDE * GREATEST + 1) * part;
             int high = (SIDE * GREATEST + 1) * part;
             for (int step = 0; step < 64 && high - low > 1; step++) {
                 int middle = low + (high - low) / 2;
-                weigh(polynomial, degree, middle, part);
+                weigh(polynomial, middle, part);
                 if (below <= i) {
                     low = middle;
                 } else {
@@ -1517,9 +1583,10 @@ public final class TableBench {
         }
 
         /** The numbers become those of the polynomial whose roots are b times the roots, less a. */
-        private void moveBy(long[] polynomial, int degree, int a, int b) {
+        private void moveBy(Polynomial polynomial, int a, int b) {
+            int degree = polynomial.degree;
             for (int i = 0; i <= degree; i++) {
-                numbers[i].become(polynomial[i]);
+                numbers[i].become(polynomial.number(i));
                 for (int k = i; k < degree; k++) {
                     numbers[i].scaleBy(b);
                 }
@@ -1528,7 +1595,7 @@ public final class TableBench {
                 for (int k = degree - 1; k >= i; k--) {
                     more.copy(numbers[k + 1]);
                     more.scaleBy(a);
-                    numbers[k].add(more);
+                    numbers[k].add(more, 1);
                 }
             }
         }
@@ -1564,7 +1631,12 @@ public final class TableBench {
                 rows[i].become(i % (SIDE + 1) == 0 ? 1 : 0);
             }
             for (int i = 0; i < side; i++) {
-                straighten(table, i);
+                boolean pivots = changeForPivot(table, i) || addForPivot(table, i);
+                for (int k = i + 1; k < side && pivots; k++) {
+                    if (clear(i, k)) {
+                        lighten(k);
+                    }
+                }
             }
             for (int i = 0; i < side; i++) {
                 leanOn(table, i);
@@ -1572,40 +1644,30 @@ public final class TableBench {
             }
         }
 
-        private void straighten(Table table, int i) {
-            leanOn(table, i);
-            meet(i, pivot);
-            if (pivot.direction == 0) {
-                if (!findPivot(table, i)) {
-                    return;
-                }
-                leanOn(table, i);
-                meet(i, pivot);
-            }
-            for (int k = i + 1; k < side; k++) {
-                meet(k, other);
-                if (other.direction != 0) {
-                    clear(i, k);
-                }
-            }
-        }
-
-        private boolean findPivot(Table table, int i) {
-            for (int k = i + 1; k < side; k++) {
+        /** Row i itself or the next that meets itself comes to place i; the table leans on it: whether there is one. */
+        private boolean changeForPivot(Table table, int i) {
+            for (int k = i; k < side; k++) {
                 leanOn(table, k);
-                meet(k, other);
-                if (other.direction != 0) {
+                meet(k, pivot);
+                if (pivot.direction != 0) {
                     changePlaces(i, k);
                     return true;
                 }
             }
+            return false;
+        }
+
+        /** Where no row meets itself: row i takes on the next that it meets, and the table leans on it. */
+        private boolean addForPivot(Table table, int i) {
             leanOn(table, i);
             for (int k = i + 1; k < side; k++) {
                 meet(k, other);
                 if (other.direction != 0) {
                     for (int j = 0; j < side; j++) {
-                        rows[i * SIDE + j].add(rows[k * SIDE + j]);
+                        rows[i * SIDE + j].add(rows[k * SIDE + j], 1);
                     }
+                    leanOn(table, i);
+                    meet(i, pivot);
                     return true;
                 }
             }
@@ -1620,36 +1682,46 @@ public final class TableBench {
             }
         }
 
-        /** Row k loses what it has of row i: other is what they have in common in the bent table. */
-        private void clear(int i, int k) {
+        /** Row k loses what it has of row i, on which the table leans: whether it had any. */
+        private boolean clear(int i, int k) {
+            meet(k, other);
+            if (other.direction == 0) {
+                return false;
+            }
             divider.greatestIntoBoth(pivot, other, common);
-            divider.divideExactly(other, common);
+            divider.divide(other, common);
             product.copy(pivot);
-            divider.divideExactly(product, common);
+            divider.divide(product, common);
             common.copy(product);
             for (int j = 0; j < side; j++) {
                 Big number = rows[k * SIDE + j];
                 product.becomeProduct(number, common);
                 number.becomeProduct(rows[i * SIDE + j], other);
-                product.subtract(number);
+                product.add(number, -1);
                 number.copy(product);
             }
+            return true;
+        }
+
+        /** Divides row k by what goes into all of its numbers. */
+        private void lighten(int k) {
             common.become(0);
             for (int j = 0; j < side; j++) {
                 divider.greatestIntoBoth(rows[k * SIDE + j], common, common);
             }
             for (int j = 0; j < side; j++) {
-                divider.divideExactly(rows[k * SIDE + j], common);
+                divider.divide(rows[k * SIDE + j], common);
             }
         }
 
+        /** The table times row i: what meets it is a number of the bent table. */
         private void leanOn(Table table, int i) {
             for (int k = 0; k < side; k++) {
                 lean[k].become(0);
                 for (int j = 0; j < side; j++) {
                     product.copy(rows[i * SIDE + j]);
                     product.scaleBy(table.number(k, j));
-                    lean[k].add(product);
+                    lean[k].add(product, 1);
                 }
             }
         }
@@ -1658,56 +1730,36 @@ public final class TableBench {
             to.become(0);
             for (int j = 0; j < side; j++) {
                 product.becomeProduct(rows[k * SIDE + j], lean[j]);
-                to.add(product);
+                to.add(product, 1);
             }
         }
     }
 
     /** What hangs together by lines, and how. */
     private static final class Web {
-        private final long[] power = new long[SIDE * SIDE];
-        private final long[] next = new long[SIDE * SIDE];
+        private final Power power = new Power();
         private final int[] marks = new int[SIDE];
 
-        static void multiply(Table table, long[] by, long[] to) {
-            for (int i = 0; i < SIDE; i++) {
-                for (int k = 0; k < SIDE; k++) {
-                    long sum = 0;
-                    for (int j = 0; j < SIDE; j++) {
-                        sum += table.number(i, j) * by[j * SIDE + k];
-                    }
-                    to[i * SIDE + k] = sum;
-                }
-            }
-        }
-
         long closedWalks(Table net, int length) {
-            for (int i = 0; i < SIDE * SIDE; i++) {
-                power[i] = i % (SIDE + 1) == 0 ? 1 : 0;
-            }
+            power.begin(net.side);
             for (int step = 0; step < length; step++) {
-                multiply(net, power, next);
-                for (int i = 0; i < SIDE * SIDE; i++) {
-                    power[i] = next[i];
-                }
+                power.multiplyBy(net);
             }
-            long sum = 0;
-            for (int i = 0; i < net.side; i++) {
-                sum += power[i * SIDE + i];
-            }
-            return sum;
+            return power.sumBetween();
         }
 
         int hangTogether(Table net) {
-            int pieces = 0;
-            unmark();
+            int many = 0;
+            for (int i = 0; i < SIDE; i++) {
+                marks[i] = NONE;
+            }
             for (int i = 0; i < net.side; i++) {
                 if (marks[i] == NONE) {
-                    pieces++;
+                    many++;
                     spreadFrom(net, i);
                 }
             }
-            return pieces;
+            return many;
         }
 
         boolean partsInTwo(Table net) {
@@ -1720,12 +1772,6 @@ public final class TableBench {
                 }
             }
             return true;
-        }
-
-        private void unmark() {
-            for (int i = 0; i < SIDE; i++) {
-                marks[i] = NONE;
-            }
         }
 
         /** Marks 0 and 1 by turns along the lines; in as many rounds as there are things every one is reached. */
