@@ -1,6 +1,6 @@
 import java.math.BigInteger;
 
-/** The way by which a table is bent, for the model: just as the document tells it, with the whole bent table anew each time. */
+/** The way by which a table is bent, for the model: as the document tells it, each number of the bent table anew. */
 final class Bent {
     final BigInteger[][] rows;
     private final int[][] m;

@@ -9,8 +9,12 @@ final class Due {
     }
 
     void is(String call, long got, long want) {
+        says(call, Long.toString(got), Long.toString(want));
+    }
+
+    void says(String call, String got, String want) {
         asked++;
-        if (got != want) {
+        if (!got.equals(want)) {
             wrong++;
             if (wrong <= 50) {
                 System.out.println(part + ": " + call + " answered " + got + ", due is " + want);

@@ -110,7 +110,8 @@ public final class FuzzTest {
     }
 
     private void put(int l, int lane, int i, long word) {
-        due.is("put(" + l + ", " + lane + ", " + i + ", " + word + ")", x.put(l, lane, i, word), y.put(l, lane, i, word));
+        String call = "put(" + l + ", " + lane + ", " + i + ", " + word + ")";
+        due.is(call, x.put(l, lane, i, word), y.put(l, lane, i, word));
     }
 
     private void call(int which) {
