@@ -43,7 +43,7 @@ public final class FuzzTest {
             if (random.nextInt(4) == 0) {
                 make(style);
             } else {
-                call(random.nextInt(38));
+                call(random.nextInt(39));
             }
             state();
         }
@@ -159,8 +159,8 @@ public final class FuzzTest {
             case 33: due.is("show(" + t + ")", x.show(t), y.show(t)); break;
             case 34: n = near(16); due.is("form(" + t + ", " + n + ")", x.form(t, n), y.form(t, n)); break;
             case 35: n = near(21); due.is("walks(" + t + ", " + n + ")", x.walks(t, n), y.walks(t, n)); break;
-            case 36: due.is("pieces(" + t + ")", x.pieces(t), y.pieces(t));
-                due.is("two(" + t + ")", x.two(t), y.two(t)); break;
+            case 36: due.is("pieces(" + t + ")", x.pieces(t), y.pieces(t)); break;
+            case 37: due.is("two(" + t + ")", x.two(t), y.two(t)); break;
             default: due.is("trees(" + t + ")", x.trees(t), y.trees(t));
         }
     }

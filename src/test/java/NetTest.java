@@ -11,9 +11,21 @@ public final class NetTest {
     private static final String[] UNFIT = {"0 0; 0 0", "0", "1 1; 1 0", "0 0 2; 0 0 0; 2 0 0", "3"};
 
     public static void main(String[] args) {
+        twoFirst();
         nets();
         unfit();
         DUE.end();
+    }
+
+    /** On an object that has told no pieces yet. */
+    private static void twoFirst() {
+        DUE.part("promise 34, first");
+        TableBench x = new TableBench();
+        Make.table(x, NETS[0]);
+        Make.table(x, NETS[1]);
+        DUE.is("two(0)", x.two(0), 1);
+        DUE.is("two(1)", x.two(1), 0);
+        DUE.is("two(0) again", x.two(0), 1);
     }
 
     private static void nets() {

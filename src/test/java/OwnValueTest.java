@@ -156,11 +156,25 @@ public final class OwnValueTest {
         DUE.is("seen() stays", x.seen(), -7);
         Make.table(x, "-100 -100 -100; -100 -100 -100; -100 -100 -100");
         shut(x, 7, 0, 20, 1, -300 * (1 << 20));
+        leastOfAll();
         // The roots of x^2 - 100 x - 1 are 100.009999 and -0.009999; of 0 and 100 they are but near.
         Make.table(x, "100 1; 1 0");
         shut(x, 8, 1, 6, 0, 6400);
         shut(x, 8, 0, 6, 0, -1);
         shut(x, 8, 1, 7, 0, 12801);
+    }
+
+    /** Less 600 is the least own value that there can be. */
+    private static void leastOfAll() {
+        TableBench x = new TableBench();
+        for (int i = 0; i < 6; i++) {
+            Make.leaf(x, i, "-100 -100 -100 -100 -100 -100");
+        }
+        x.table(0, 6);
+        shut(x, 0, 0, 20, 1, -629145600);
+        shut(x, 0, 0, 0, 1, -600);
+        shut(x, 0, 1, 20, 1, 0);
+        counts(x, 0, -600, 1, "0 1 5 0 1 1");
     }
 
     private static void shut(TableBench x, int t, int i, int k, int due, long seen) {
