@@ -24,6 +24,8 @@ public final class FormTest {
             {"0 0; 0 0", "0 0 | 1 0 | 0 1", "20", "0"},
             // Row 1 becomes -1 2 0, which meets itself in 0, but row 2 in 6: it takes on row 2.
             {"4 2 0; 2 1 3; 0 3 0", "4 12 -12 | 1 0 0 | -1 2 1 | 1 -2 1", "201", "2"},
+            // Rows 1 and 2 become -1 1 0 and -1 0 1, both of which meet themselves in 0, and one another in 1.
+            {"1 1 1; 1 1 2; 1 2 1", "1 2 -2 | 1 0 0 | -2 1 1 | 0 -1 1", "201", "2"},
         };
         TableBench x = new TableBench();
         for (int t = 0; t < due.length; t++) {
