@@ -1154,7 +1154,11 @@ public final class TableBench {
             if (length == 0) {
                 return 0;
             }
-            return length * DIGIT_BITS - (Integer.numberOfLeadingZeros(digit(length - 1)) - (32 - DIGIT_BITS));
+            int bits = (length - 1) * DIGIT_BITS;
+            for (int i = 0; i < DIGIT_BITS; i++) {
+                bits += digit(length - 1) >> i > 0 ? 1 : 0;
+            }
+            return bits;
         }
 
         long wordAt(int k) {
