@@ -392,8 +392,7 @@ public final class TableBench {
         int part = 1 << k;
         int m = scale.greatestNotAbove(teller.least, i, part);
         lastSeen = m;
-        scale.weigh(teller.least, m, part);
-        return scale.just;
+        return scale.isJust(teller.least, i, m, part) ? 1 : 0;
     }
 
     public long seen() {
@@ -1584,6 +1583,12 @@ public final class TableBench {
                 }
             }
             return low;
+        }
+
+        /** Whether root i, all being unlike, is just a / b: the one below may be just there, root i close behind. */
+        boolean isJust(Polynomial polynomial, int i, int a, int b) {
+            weigh(polynomial, a, b);
+            return just == 1 && below == i;
         }
 
         /** The numbers become those of the polynomial whose roots are b times the roots, less a. */

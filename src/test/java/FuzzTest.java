@@ -38,7 +38,7 @@ public final class FuzzTest {
     private void run() {
         x = new TableBench();
         y = new Model();
-        int style = random.nextInt(5);
+        int style = random.nextInt(6);
         for (int step = 0; step < 60; step++) {
             if (random.nextInt(4) == 0) {
                 make(style);
@@ -70,6 +70,8 @@ public final class FuzzTest {
             case 1: return random.nextInt(5) - 2;
             case 2: return random.nextInt(201) - 100;
             case 3: return random.nextInt(3) == 0 ? random.nextInt(21) - 10 : 0;
+            // Small parts side by side: whole own values with others close behind them.
+            case 4: return i / 2 == k / 2 ? random.nextInt(4) - 1 : 0;
             default: return i == k ? 100 * (random.nextInt(3) - 1) : 100 - 200 * random.nextInt(2);
         }
     }
@@ -144,7 +146,8 @@ public final class FuzzTest {
             case 22: due.is("ring(" + t + ")", x.ring(t), y.ring(t)); break;
             case 23: n = near(7); due.is("often(" + t + ", " + n + ")", x.often(t, n), y.often(t, n)); break;
             case 24: case 25: case 26: count(t); break;
-            case 27: case 28: case 29: n = near(21);
+            // Broad parts more often: several own values lie in one of them.
+            case 27: case 28: case 29: n = near(random.nextBoolean() ? 3 : 21);
                 due.is("shut" + at + n, x.shut(t, i, n), y.shut(t, i, n)); break;
             case 30: due.is("same(" + t + ", " + u + ")", x.same(t, u), y.same(t, u)); break;
             default: rest(which, t);

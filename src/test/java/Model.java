@@ -345,7 +345,9 @@ final class Model {
             else high = middle;
         }
         seen = low;
-        return Poly.weigh(least, BigInteger.valueOf(low), part)[1];
+        // It is not below low / part; so it is just that if it is one of those that are not above.
+        int[] parts = Poly.weigh(least, BigInteger.valueOf(low), part);
+        return parts[0] + parts[1] > i ? 1 : 0;
     }
 
     int same(int t, int u) {

@@ -14,6 +14,7 @@ public final class OwnValueTest {
         often();
         count();
         shut();
+        shutBehindAnother();
         same();
         DUE.end();
     }
@@ -162,6 +163,62 @@ public final class OwnValueTest {
         shut(x, 8, 1, 6, 0, 6400);
         shut(x, 8, 0, 6, 0, -1);
         shut(x, 8, 1, 7, 0, 12801);
+    }
+
+    /** Two unlike own values in one part: what the one is just at is not told of the other. */
+    private static void shutBehindAnother() {
+        TableBench x = new TableBench();
+        // 0, 0.38.., 2.61..
+        Make.table(x, "0 0 0; 0 1 1; 0 1 2");
+        shuts(x, 0, 0, "1 0, 0 0, 0 2");
+        shuts(x, 0, 1, "1 0, 0 0, 0 5");
+        shuts(x, 0, 2, "1 0, 0 1, 0 10");
+        // -3, -2.61.., -0.38..
+        x.shift(0, -3);
+        shuts(x, 1, 0, "1 -3, 0 -3, 0 -1");
+        shuts(x, 1, 1, "1 -6, 0 -6, 0 -1");
+        shuts(x, 1, 2, "1 -12, 0 -11, 0 -2");
+        // -0.61.., 0, 1.61..: the one that is just at a part is the later one.
+        Make.table(x, "0 1 0; 1 1 0; 0 0 0");
+        shuts(x, 2, 0, "0 -1, 1 0, 0 1");
+        // 1 twice, 1.26.., 3, 4.73..: of the two at whole numbers only the first has another one close behind it.
+        Make.table(x, "1 0 0 0 0; 0 1 0 0 0; 0 0 2 1 0; 0 0 1 3 1; 0 0 0 1 4");
+        shuts(x, 3, 0, "1 1, 0 1, 1 3, 0 4");
+        shuts(x, 3, 1, "1 2, 0 2, 1 6, 0 9");
+        shuts(x, 3, 2, "1 4, 0 5, 1 12, 0 18");
+        // 0, 0.26.., 0.38.., 2.61.., 3.73..: three in one part.
+        Make.table(x, "0 0 0 0 0; 0 1 1 0 0; 0 1 2 0 0; 0 0 0 1 1; 0 0 0 1 3");
+        shuts(x, 4, 0, "1 0, 0 0, 0 0, 0 2, 0 3");
+        shuts(x, 4, 2, "1 0, 0 1, 0 2, 0 10, 0 13");
+        closestBehind();
+    }
+
+    /** The own value behind 0, or ahead of it, is so near that even parts of 2^20 don't part them. */
+    private static void closestBehind() {
+        TableBench x = new TableBench();
+        // Worth 1 without the first row, the greater four own values being near 82: the least is near 0.00000002.
+        Make.table(x, "0 0 0 0 0 0; 0 1 9 0 0 0; 0 9 82 9 0 0; 0 0 9 82 9 0; 0 0 0 9 82 9; 0 0 0 0 9 82");
+        Make.table(x, "0 0 0 0 0 0; 0 -1 -9 0 0 0; 0 -9 -82 -9 0 0; 0 0 -9 -82 -9 0; 0 0 0 -9 -82 -9; "
+            + "0 0 0 0 -9 -82");
+        x.shift(0, 18);
+        for (int k = 0; k <= 20; k += 5) {
+            shut(x, 0, 0, k, 1, 0);
+            shut(x, 0, 1, k, 0, 0);
+            shut(x, 1, 4, k, 0, -1);
+            shut(x, 1, 5, k, 1, 0);
+            shut(x, 2, 0, k, 1, 18L << k);
+            shut(x, 2, 1, k, 0, 18L << k);
+        }
+    }
+
+    /** Each of all unlike own values, in order: what is answered, and seen. */
+    private static void shuts(TableBench x, int t, int k, String due) {
+        String[] parts = due.split(", ");
+        for (int i = 0; i < parts.length; i++) {
+            String[] part = parts[i].split(" ");
+            shut(x, t, i, k, Integer.parseInt(part[0]), Long.parseLong(part[1]));
+        }
+        DUE.is("shut(" + t + ", " + parts.length + ", " + k + ")", x.shut(t, parts.length, k), Make.INDEX);
     }
 
     /** Less 600 is the least own value that there can be. */
