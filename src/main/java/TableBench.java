@@ -685,9 +685,9 @@ public final class TableBench {
 
         static boolean isNoNumber(int lane, long word) {
             if (lane == FLOAT) {
-                return ((int) word & Integer.MAX_VALUE) > 0x7f800000;
+                return ((int) word & 0x7fffffff) > 0x7f800000;
             }
-            return lane == DOUBLE && (word & Long.MAX_VALUE) > 0x7ff0000000000000L;
+            return lane == DOUBLE && (word & 0x7fffffffffffffffL) > 0x7ff0000000000000L;
         }
 
         boolean isLost() {
